@@ -28,17 +28,8 @@ public final class SmashedHours {
     private static final int FIRST_WANTED = 0;
     private static final int NEAREST = 1;
 
-    private static final int HOUR = 0;
-    private static final int RIVER = 1;
-    private static final int BAND = 2;
-    private static final int DENTIST = 3;
-    private static final int WIDOW = 4;
-    private static final int MINUTE = 5;
     private static final int NOBODY_HAS_IT = 10;
 
-    /** The kind above each kind; always a lower number, so that going up ends. */
-    private static final int[] ABOVE = {NOBODY, HOUR, HOUR, RIVER, BAND, HOUR};
-    private static final int[] MARKS = {1, 10, 100, 1000, 10000, 100000};
     /** Who has which hour, when everybody has his own. */
     private static final int[] OWN = {0, 1, 2, 3, 4, 5};
 
@@ -379,10 +370,25 @@ public final class SmashedHours {
     // ---- kinds, images
 
     public int rate(int kind, int p) {
-        if (!within(kind, HOUR, MINUTE) || !people.knows(p)) {
+        if (!people.knows(p)) {
             return NO;
         }
-        return worthAs(kind, p);
+        switch (kind) {
+            case 0:
+                return asHour(p);
+            case 1:
+                return asRiver(p);
+            case 2:
+                return asBand(p);
+            case 3:
+                return asDentist(p);
+            case 4:
+                return asWidow(p);
+            case 5:
+                return asMinute(p);
+            default:
+                return NO;
+        }
     }
 
     public int keep(int image) {
@@ -440,29 +446,37 @@ public final class SmashedHours {
         return true;
     }
 
-    /** Goes up at most two kinds: see ABOVE. */
-    private int worthAs(int kind, int p) {
-        marks += MARKS[kind];
-        int up = kind == HOUR ? 0 : worthAs(ABOVE[kind], p);
-        switch (kind) {
-            case RIVER:
-                return up + people.howManyWant(p);
-            case BAND:
-                return up - here.left[p];
-            case DENTIST:
-                return 2 * up;
-            case WIDOW:
-                return up + ownerOf(p);
-            case MINUTE:
-                return up + here.gone;
-            default:
-                return people.weight[p];
-        }
+    // Each kind asks the kind above it once, and leaves its own mark on the trace.
+
+    private int asHour(int p) {
+        marks += 1;
+        return people.weight[p];
     }
 
-    private int ownerOf(int hour) {
-        int owner = here.whoHas(hour);
-        return owner == NOBODY ? NOBODY_HAS_IT : owner;
+    private int asRiver(int p) {
+        marks += 10;
+        return asHour(p) + people.howManyWant(p);
+    }
+
+    private int asBand(int p) {
+        marks += 100;
+        return asHour(p) - here.left[p];
+    }
+
+    private int asDentist(int p) {
+        marks += 1000;
+        return 2 * asRiver(p);
+    }
+
+    private int asWidow(int p) {
+        marks += 10000;
+        int owner = here.whoHas(p);
+        return asBand(p) + (owner == NOBODY ? NOBODY_HAS_IT : owner);
+    }
+
+    private int asMinute(int p) {
+        marks += 100000;
+        return asHour(p) + here.gone;
     }
 
     private static boolean within(int number, int least, int most) {
@@ -611,26 +625,14 @@ public final class SmashedHours {
             step();
             // Each item has letters of its own, so there are fewer items than letters.
             for (int i = 0; i < LETTERS && token != END; i++) {
-                if (!readItem()) {
+                boolean right = token == 'p' ? readPerson() : token == 'w' ? readWants() : token == 'l' && readLaw();
+                if (!right) {
                     return FAULTS - tokenPlace;
                 }
                 items++;
                 step();
             }
             return items;
-        }
-
-        private boolean readItem() {
-            switch (token) {
-                case 'p':
-                    return readPerson();
-                case 'w':
-                    return readWants();
-                case 'l':
-                    return readLaw();
-                default:
-                    return false;
-            }
         }
 
         private boolean readPerson() {
@@ -710,7 +712,7 @@ public final class SmashedHours {
         }
 
         private static boolean isDigit(int letter) {
-            return within(letter, '0', '9');
+            return letter >= '0' && letter <= '9';
         }
     }
 
@@ -960,9 +962,8 @@ public final class SmashedHours {
 
         private void goRound() {
             int at = lowestLeft();
-            int seen = 0;
-            for (int i = 0; i < PEOPLE && !holds(seen, at); i++) {
-                seen |= 1 << at;
+            // After as many steps as there may be people, he who is reached is in the ring.
+            for (int i = 0; i < PEOPLE; i++) {
                 at = aims[at];
             }
             int ring = 0;

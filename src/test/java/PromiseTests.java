@@ -246,13 +246,15 @@ public final class PromiseTests {
     }
 
     private static void houseTellsAllAnew() {
-        SmashedHours x = given("p20 3;p30 2;w0 1;l1;", 3);
+        SmashedHours x = given("p20 3;p40 2;p5 5;w0 1;l1;", 3);
         x.night();
+        x.joins(3);
         x.tells(1, 0, 0);
         x.keep(0);
         x.keep(1);
-        x.gives(0);
+        x.gives(2);
         x.rate(0, 0);
+        nowIs("ahead of anew", x, 1, 4, 0, 1, 1, 4, 5);
         say(x, "p7 4;p8 5;p9 6;w2 1;");
         due("anew", x.house(), 4);
         due("people anew", x.count(0), 3);
@@ -401,6 +403,16 @@ public final class PromiseTests {
 
         // The next of his WANTS when the best is gone.
         wouldAll("second best", given("p1 9;p2 9;p3 9;w0 1;w1 0;w2 0 2;", 7), 1, 0, 2);
+
+        // The ring that the lowest leads to is the first, so that 5 is a lump ahead of 4.
+        SmashedHours order = given("p1 9;p2 9;p3 9;p4 9;p5 9;p6 9;w0 1;w1 0;w2 3;w3 2;w4 2;w5 0;", 63);
+        due("order night", order.night(), 4);
+        bitsAre("order", order, 6, 5);
+        // 0 leads to the ring of 4 and 5, which goes ahead of that of 1 and 2.
+        SmashedHours led = given("p1 9;p2 9;p3 9;p4 9;p5 9;p6 9;w0 5;w1 2;w2 1;w3 1;w4 5;w5 4;", 63);
+        wouldAll("led", led, NONE, 2, 1, NONE, 5, 4);
+        led.night();
+        bitsAre("led", led, 1, 4);
     }
 
     private static void nightOfHoursOfOthers() {
@@ -453,10 +465,13 @@ public final class PromiseTests {
         x.gives(0);
         x.night();
         due("0 can't", x.gives(0), STATE);
-        for (int i = 4; i <= 400; i++) {
+        // An object's calls end ahead of this; the limit is held all the same.
+        for (int i = 4; i <= 999; i++) {
             due("night " + i, x.night(), 0);
             due("gone " + i, x.now(0), i);
         }
+        due("there were 999", x.night(), STATE);
+        due("no more", x.now(0), 999);
     }
 
     // Promise 12
@@ -525,6 +540,13 @@ public final class PromiseTests {
         due("undo first", x.undo(), 0);
         due("silk is empty", x.now(1), 0);
         due("undo nothing", x.undo(), STATE);
+
+        SmashedHours bits = given("p20 3;p40 2;p5 1;", 7);
+        bits.night();
+        bits.joins(3);
+        bitsAre("5 came up", bits, 5);
+        bits.undo();
+        bitsAre("all lie as they did", bits, 20, 40, 5);
     }
 
     private static void undoKnowsTen() {
@@ -604,6 +626,14 @@ public final class PromiseTests {
         due("2 has none", y.get(0, 1), 11);
         due("who has none gets none", y.get(2, 0), NONE);
         due("an hour that is lost", y.get(1, 2), NONE);
+        SmashedHours six = of("p1 1;p1 1;p1 1;p1 1;p1 1;p1 1;w0 1;w1 2;w2 3;w3 4;w4 5;w5 0;");
+        due("all six", six.get(3, 4), 63);
+        due("alone", of("p1 1;w0 0;").get(0, 0), 1);
+        SmashedHours late = of("p1 9;p1 1;w0 1;w1 1 0;");
+        late.gives(1);
+        late.night();
+        due("has his hour", late.person(1, 2), 1);
+        due("who has no nights is in no set", late.get(0, 1), NONE);
     }
 
     // Promise 18
@@ -623,6 +653,11 @@ public final class PromiseTests {
         due("those in the silk are no matter", y.most(0), 5);
         y.night();
         due("without 0", y.most(0), 6);
+        due("0 alone", of("p1 1;p1 1;w0 0;").most(0), 1);
+        SmashedHours late = of("p1 9;p1 1;w0 1;w1 1 0;");
+        late.gives(1);
+        late.night();
+        due("who has no nights is in no set", late.most(1), 0);
     }
 
     // Promise 19
@@ -655,6 +690,10 @@ public final class PromiseTests {
         nights.gives(0);
         nights.night();
         due("nights are no matter", nights.could(-1), 1);
+        due("one has one", of("p1 1;p1 1;w0 0 1;").could(-1), 1);
+        SmashedHours six = of("p1 1;p1 1;p1 1;p1 1;p1 1;p1 1;w0 1;w1 2;w2 3;w3 4;w4 5;w5 5 0;");
+        due("all six", six.could(-1), 6);
+        due("the last of six", six.could(5), 0);
     }
 
     // Promise 20
@@ -711,6 +750,13 @@ public final class PromiseTests {
         z.night();
         due("least bits", z.join(0), 7);
         due("two hours", z.join(2), 2);
+        SmashedHours whole = given("p60 1;p1 1;", 3);
+        whole.night();
+        due("60 alone", whole.join(0), 1);
+        due("is an hour", whole.join(2), 1);
+        whole.joins(1);
+        due("a minute", whole.join(0), 1);
+        due("59 lacking", whole.join(1), 59);
         due("join 3", z.join(3), BAD);
         due("join -1", z.join(-1), BAD);
     }
@@ -773,6 +819,8 @@ public final class PromiseTests {
         stops(x, 3, 5, 20, 8, 7, 2);
         stops(x, 5, 1, 99, 0, 4054149, 100000);
         stops(x, 2, 5, 10, 6, 0, 1);
+        stops(x, 5, 10, 0, 0, 0, 1);
+        stops(x, 5, 10, 0, 99, 0, 1);
         int[][] wrongs = {{-1, 0, 0, 0, 0}, {6, 0, 0, 0, 0}, {0, -1, 0, 0, 0}, {0, 11, 0, 0, 0}, {0, 0, -1, 0, 0},
             {0, 0, 100, 0, 0}, {0, 0, 0, -1, 0}, {0, 0, 0, 100, 0}, {0, 0, 0, 0, -1}, {0, 0, 0, 0, 2}};
         for (int[] w : wrongs) {
@@ -912,6 +960,8 @@ public final class PromiseTests {
             due("back " + n, x.back(n), BAD);
             due("count " + n, x.count(n), BAD);
             due("trace", x.trace(), 0);
+            due("stop n " + n, x.stop(n, 0, 0, 0, 0), BAD);
+            due("stop what " + n, x.stop(0, 0, 0, 0, n), BAD);
             nowIs("nothing changed", x, 0, 3, 0, 0, 0, 3, 2);
         }
     }
