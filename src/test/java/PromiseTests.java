@@ -1,14 +1,5 @@
 /** For each promise of the document: ordinary calls, the edges it names, wrong inputs. */
-public final class PromiseTests {
-    private static final int BAD = SmashedHours.BAD;
-    private static final int STATE = SmashedHours.STATE;
-    private static final int FULL = SmashedHours.FULL;
-    private static final int NONE = SmashedHours.NONE;
-    private static final int NO = SmashedHours.NO;
-
-    private static int checks = 0;
-    private static int wrong = 0;
-
+public final class PromiseTests extends Checks {
     private PromiseTests() {
     }
 
@@ -42,58 +33,7 @@ public final class PromiseTests {
         imagesKeepNow();
         counts();
         wrongNumbers();
-        System.out.println(checks + " checks, " + wrong + " wrong");
-        if (wrong != 0) {
-            System.exit(1);
-        }
-    }
-
-    private static void due(String what, long got, long want) {
-        checks++;
-        if (got != want) {
-            wrong++;
-            System.out.println(what + " answered " + got + ", due is " + want);
-        }
-    }
-
-    private static void say(SmashedHours x, String text) {
-        for (int i = 0; i < text.length(); i++) {
-            x.type(text.charAt(i));
-        }
-    }
-
-    private static SmashedHours of(String text) {
-        SmashedHours x = new SmashedHours();
-        say(x, text);
-        x.house();
-        return x;
-    }
-
-    private static SmashedHours given(String text, int set) {
-        SmashedHours x = of(text);
-        give(x, set);
-        return x;
-    }
-
-    private static void give(SmashedHours x, int set) {
-        for (int p = 0; p < 6; p++) {
-            if ((set >> p & 1) == 1) {
-                x.gives(p);
-            }
-        }
-    }
-
-    private static void wouldAll(String name, SmashedHours x, int... want) {
-        for (int p = 0; p < want.length; p++) {
-            due(name + " would(" + p + ")", x.would(p), want[p]);
-        }
-    }
-
-    private static void bitsAre(String name, SmashedHours x, int... want) {
-        due(name + " now(2)", x.now(2), want.length);
-        for (int k = 0; k < 8; k++) {
-            due(name + " bit(" + k + ")", x.bit(k), k < want.length ? want[k] : NONE);
-        }
+        end();
     }
 
     // Promise 1
@@ -171,78 +111,53 @@ public final class PromiseTests {
         reads("p1 1;p1 1;p1 1;p1 1;w0 3 2 1 0;p1 1;w4 4;", 7);
     }
 
-    private static void reads(String text, int items) {
-        SmashedHours x = new SmashedHours();
-        say(x, text);
-        due("house \"" + text + "\"", x.house(), items);
-        due("text behind \"" + text + "\"", x.count(2), 0);
-    }
-
     private static void houseWithFaults() {
-        faults("x", 0);
-        faults(";", 0);
-        faults("5", 0);
-        faults("P1 1;", 0);
-        faults("p1\t1;", 2);
-        faults("p", 1);
-        faults("p  ", 3);
-        faults("p1", 2);
-        faults("p1 1", 4);
-        faults("p1 1 ", 5);
-        faults("p0 1;", 1);
-        faults("p61 1;", 1);
-        faults("p100 1;", 1);
-        faults("p01 1;", 1);
-        faults("p 00 1;", 2);
-        faults("p4294967297 1;", 1);
-        faults("p1 0;", 3);
-        faults("p1 10;", 3);
-        faults("p1 1 1;", 5);
-        faults("p1 1p", 4);
-        faults("p;", 1);
-        faults("p1;", 2);
-        faults("pp", 1);
-        faults("p1 1;;", 5);
-        faults("w", 1);
-        faults("w0;", 1);
-        faults("p1 1;w;", 6);
-        faults("p1 1;w1;", 6);
-        faults("p1 1;w0", 7);
-        faults("p1 1;w0 1;", 8);
-        faults("p1 1;w0 1;p1 1;", 8);
-        faults("p1 1;w0 0 0;", 10);
-        faults("p1 1;w0 00;", 8);
-        faults("p1 1;w0 w", 8);
-        faults("p1 1;p1 1;p1 1;p1 1;p1 1;w0 0 1 2 3 4;", 36);
-        faults("p1 1;p1 1;p1 1;p1 1;p1 1;w0 0 1 2 3", 35);
-        faults("p1 1;p1 1;p1 1;p1 1;p1 1;p1 1;p", 30);
-        faults("p1 1;p1 1;p1 1;p1 1;p1 1;p1 1;w6;", 31);
-        faults("l", 1);
-        faults("l;", 1);
-        faults("l3;", 1);
-        faults("l1", 2);
-        faults("l1 1;", 3);
-        faults("l1;l1;", 3);
-        faults("l1; l", 4);
-        faults("l1;\u00ff", 3);
-    }
-
-    private static void faults(String text, int place) {
-        SmashedHours x = given("p20 3;p30 2;w0 1;w1 0;l1;", 1);
-        x.tells(3, 0, 1);
-        x.keep(0);
-        say(x, text);
-        due("house \"" + text + "\"", x.house(), -10 - place);
-        due("text stays", x.count(2), text.length());
-        due("people stay", x.count(0), 2);
-        due("weight stays", x.person(0, 0), 20);
-        due("nights stay", x.person(1, 1), 2);
-        due("wants stay", x.wants(0, 0), 1);
-        due("silk stays", x.now(1), 1);
-        due("law stays", x.now(4), 1);
-        due("told stays", x.count(1), 1);
-        due("undo stays", x.now(6), 1);
-        due("image stays", x.back(0), 0);
+        faultAt(0, "x");
+        faultAt(0, ";");
+        faultAt(0, "5");
+        faultAt(0, "P1 1;");
+        faultAt(2, "p1\t1;");
+        faultAt(1, "p");
+        faultAt(3, "p  ");
+        faultAt(2, "p1");
+        faultAt(4, "p1 1");
+        faultAt(5, "p1 1 ");
+        faultAt(1, "p0 1;");
+        faultAt(1, "p61 1;");
+        faultAt(1, "p100 1;");
+        faultAt(1, "p01 1;");
+        faultAt(2, "p 00 1;");
+        faultAt(1, "p4294967297 1;");
+        faultAt(3, "p1 0;");
+        faultAt(3, "p1 10;");
+        faultAt(5, "p1 1 1;");
+        faultAt(4, "p1 1p");
+        faultAt(1, "p;");
+        faultAt(2, "p1;");
+        faultAt(1, "pp");
+        faultAt(5, "p1 1;;");
+        faultAt(1, "w");
+        faultAt(1, "w0;");
+        faultAt(6, "p1 1;w;");
+        faultAt(6, "p1 1;w1;");
+        faultAt(7, "p1 1;w0");
+        faultAt(8, "p1 1;w0 1;");
+        faultAt(8, "p1 1;w0 1;p1 1;");
+        faultAt(10, "p1 1;w0 0 0;");
+        faultAt(8, "p1 1;w0 00;");
+        faultAt(8, "p1 1;w0 w");
+        faultAt(36, "p1 1;p1 1;p1 1;p1 1;p1 1;w0 0 1 2 3 4;");
+        faultAt(35, "p1 1;p1 1;p1 1;p1 1;p1 1;w0 0 1 2 3");
+        faultAt(30, "p1 1;p1 1;p1 1;p1 1;p1 1;p1 1;p");
+        faultAt(31, "p1 1;p1 1;p1 1;p1 1;p1 1;p1 1;w6;");
+        faultAt(1, "l");
+        faultAt(1, "l;");
+        faultAt(1, "l3;");
+        faultAt(2, "l1");
+        faultAt(3, "l1 1;");
+        faultAt(3, "l1;l1;");
+        faultAt(4, "l1; l");
+        faultAt(3, "l1;\u00ff");
     }
 
     private static void houseTellsAllAnew() {
@@ -343,12 +258,6 @@ public final class PromiseTests {
         nowIs("an hour made", x, 2, 0, 1, 1, 2, 0, 6);
         due("now 7", x.now(7), BAD);
         due("now -1", x.now(-1), BAD);
-    }
-
-    private static void nowIs(String name, SmashedHours x, int... want) {
-        for (int what = 0; what < want.length; what++) {
-            due(name + " now(" + what + ")", x.now(what), want[what]);
-        }
     }
 
     // Promises 9, 10
