@@ -92,7 +92,14 @@ public final class BoundaryTests extends Checks {
         if (promise.matches()) {
             return "Promise " + promise.group(1);
         }
-        return group.getSimpleName().equals("WhatItIs") ? "What it is" : TERMS;
+        switch (group.getSimpleName()) {
+            case "WhatItIs":
+                return "What it is";
+            case "ThePublicFace":
+                return "The public face";
+            default:
+                return TERMS;
+        }
     }
 
     private boolean mark(String section, String words) {

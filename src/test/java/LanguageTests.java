@@ -13,12 +13,9 @@ import java.util.regex.Matcher;
 import java.util.regex.Pattern;
 
 /** The rules of LANGUAGE.md that a look at the file or at the class can tell; and the document's face. */
-public final class LanguageTests {
+public final class LanguageTests extends Checks {
     private static final Path SOURCE = Path.of("src/main/java/SmashedHours.java");
     private static final Path DOCUMENT = Path.of("../shared/DOC.md");
-
-    private static int checks = 0;
-    private static int wrong = 0;
 
     private LanguageTests() {
     }
@@ -31,18 +28,7 @@ public final class LanguageTests {
         methodsAreShort(withoutComments(source));
         rowsAreMadeInConstructors(withoutComments(source));
         callsAreNotDeep(withoutComments(source));
-        System.out.println(checks + " checks, " + wrong + " wrong");
-        if (wrong != 0) {
-            System.exit(1);
-        }
-    }
-
-    private static void must(String what, boolean holds) {
-        checks++;
-        if (!holds) {
-            wrong++;
-            System.out.println("not so: " + what);
-        }
+        end();
     }
 
     private static String withoutComments(String source) {

@@ -151,8 +151,11 @@ public final class ModelTests {
         }
     }
 
-    /** Mostly a number that may be, at times one beside. */
+    /** Mostly a number that may be, at times one beside, at times one so far off that it might wrap around. */
     private int pick(int least, int most) {
+        if (random.nextInt(60) == 0) {
+            return Checks.FAR[random.nextInt(Checks.FAR.length)];
+        }
         return least - (random.nextInt(20) == 0 ? 1 : 0) + random.nextInt(most - least + 1 + (random.nextInt(10) == 0 ? 2 : 0));
     }
 

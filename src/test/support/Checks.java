@@ -2,11 +2,12 @@ import java.util.function.IntSupplier;
 
 /** What the tests share: answers held against what is due, and short ways to an object in some state. */
 abstract class Checks {
-    static final int BAD = SmashedHours.BAD;
-    static final int STATE = SmashedHours.STATE;
-    static final int FULL = SmashedHours.FULL;
-    static final int NONE = SmashedHours.NONE;
-    static final int NO = SmashedHours.NO;
+    // By number: were they the class's own, a wrong constant would be held against itself.
+    static final int BAD = -1;
+    static final int STATE = -2;
+    static final int FULL = -3;
+    static final int NONE = -9;
+    static final int NO = -1000000;
     static final int LEAST = Integer.MIN_VALUE;
     static final int LARGEST = Integer.MAX_VALUE;
     /** Numbers that wrap around to a small one by a shift, by 8, 16 or 31 bits, or by a change of sign. */

@@ -272,6 +272,15 @@ final class NightBoundaries {
             due("most(0) of the last alone", of(people(3) + "w2 2;").most(0), 4);
         }
 
+        @Says("of all such sets that by which most are SERVED")
+        static void mostServedGoesAheadOfFewerPeople() {
+            SmashedHours x = of(people(4) + "w0 1;w1 2;w2 0;w3 3 0;");
+            due("most(0)", x.most(0), 15);
+            SmashedHours y = of(people(4) + "w0 1;w1 2;w2 0;");
+            due("most(0) ahead of the last alone", y.most(0), 7);
+            due("most(1) ahead of the last alone", y.most(1), 3);
+        }
+
         @Says("of several that of fewest LUMPS")
         static void whoWouldBeALumpIsNotAmongThem() {
             due("most(0)", of(people(4) + "w1 3;w3 1;").most(0), 10);
@@ -346,7 +355,11 @@ final class NightBoundaries {
 
         @Says("of all ways to give HOURS that people HAVE")
         static void anHourThatIsLostIsNotGiven() {
-            SmashedHours x = behindNight(people(2) + "w1 0;", 1);
+            SmashedHours x = of(people(2) + "w1 0;");
+            due("could(-1) ahead", x.could(-1), 1);
+            x.gives(0);
+            due("could(-1) in the silk", x.could(-1), 1);
+            x.night();
             due("could(-1)", x.could(-1), 0);
             due("could(1)", x.could(1), NONE);
         }

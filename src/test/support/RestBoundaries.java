@@ -299,6 +299,26 @@ final class RestBoundaries {
         }
 
         @Says("one of these had the HOUR of one of these")
+        static void itIsTheOneWhoIsTold() {
+            SmashedHours x = of(FOUR);
+            x.tells(15, 2, 0);
+            due("fits()", x.fits(), 2);
+            x.forget();
+            x.tells(15, 1, 0);
+            due("fits() of another", x.fits(), 4);
+        }
+
+        @Says("one of these had the HOUR of one of these")
+        static void theLastTwoOfSixMayBeTold() {
+            SmashedHours x = of(people(6) + "w4 5;w5 4;");
+            x.tells(48, 4, 5);
+            x.tells(63, 5, 4);
+            due("fits()", x.fits(), 7);
+            x.tells(48, 4, 4);
+            due("fits() of what can not be", x.fits(), 0);
+        }
+
+        @Says("one of these had the HOUR of one of these")
         static void hisOwnHourIsHadByARingOfOne() {
             SmashedHours x = of("p20 1;w0 0;");
             x.tells(1, 0, 0);
@@ -434,7 +454,7 @@ final class RestBoundaries {
         @Says({"NO: BAD.", "`NO = -1000000`: What none is, where a number may be below 0."})
         static void kindMinus1IsNo() {
             SmashedHours x = of(TWO);
-            refused(x, "rate(-1, 0)", () -> x.rate(-1, 0), -1000000);
+            refused(x, "rate(-1, 0)", () -> x.rate(-1, 0), NO);
         }
 
         @Says("NO: BAD.")

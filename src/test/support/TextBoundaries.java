@@ -24,6 +24,21 @@ final class TextBoundaries {
         }
     }
 
+    static final class ThePublicFace extends Checks {
+        @Says("public static final int BAD = -1, STATE = -2, FULL = -3, NONE = -9;")
+        static void theAnswersOfRefusalAndOfNone() {
+            due("SmashedHours.BAD", SmashedHours.BAD, BAD);
+            due("SmashedHours.STATE", SmashedHours.STATE, STATE);
+            due("SmashedHours.FULL", SmashedHours.FULL, FULL);
+            due("SmashedHours.NONE", SmashedHours.NONE, NONE);
+        }
+
+        @Says({"public static final int NO = -1000000;", "`NO = -1000000`: What none is, where a number may be below 0."})
+        static void whatNoneIsWhereANumberMayBeBelow0() {
+            due("SmashedHours.NO", SmashedHours.NO, NO);
+        }
+    }
+
     static final class TermsPeople extends Checks {
         @Says("(6 at most)")
         static void sixPeopleAreRead() {
